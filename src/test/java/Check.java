@@ -1,0 +1,28 @@
+/** Counts answers that are not as due; a test ends with exit code 1 if there was one. */
+final class Check {
+    private int looked = 0;
+    private int wrong = 0;
+
+    void due(String call, long got, long want) {
+        looked++;
+        if (got != want) {
+            wrong++;
+            System.out.println(call + " answered " + got + ", due is " + want);
+        }
+    }
+
+    void that(String what, boolean holds) {
+        due(what, holds ? 1 : 0, 1);
+    }
+
+    boolean allRight() {
+        return wrong == 0;
+    }
+
+    void end(String name) {
+        System.out.println(name + ": " + looked + " answers, " + wrong + " wrong");
+        if (wrong != 0 || looked == 0) {
+            System.exit(1);
+        }
+    }
+}
