@@ -179,13 +179,9 @@ public final class KeyedLogs {
             return NO;
         }
         Log it = live.logs[log];
-        int many = it.mapSize(it.end);
-        if (what >= 2 && many == 0) {
-            return NO;
-        }
         switch (what) {
             case 0:
-                return many;
+                return it.mapSize(it.end);
             case 1:
                 return it.mapSum();
             case 2:

@@ -43,6 +43,7 @@ public final class PromisesTest {
         kept();
         judge();
         imageAndUndo();
+        fullLog();
         count();
         tape();
         item();
@@ -217,6 +218,16 @@ public final class PromisesTest {
         x.set(0, 0);
         due("6 active tomb stays", x.compact(0), 0);
         due("6 empty log", x.compact(1), 0);
+        KeyedLogs late = new KeyedLogs();
+        late.tick(20);
+        late.tomb(0, 0, 1);
+        for (int i = 1; i < 5; i++) {
+            late.put(0, i, 1, 1, 1);
+        }
+        late.tick(4);
+        due("6 from its own TIME on", late.compact(0), 0);
+        late.tick(1);
+        due("6 grace over", late.compact(0), 1);
         for (int wrong : WRONG) {
             due("6 none", x.compact(wrong), NONE);
         }
@@ -255,6 +266,14 @@ public final class PromisesTest {
         due("6 went", w.compact(0), 11);
         due("6 three are one", w.of(0, 3), 2);
         due("6 five left", w.segment(0, 0, 1), 5);
+        KeyedLogs v = filled(11, 1);
+        for (int i = 0; i < 4; i++) {
+            v.put(0, 8 + i, 1, 1, 1);
+        }
+        // 4, 4 and of the third, whose keys 8, 9, 10, 11 came again but for the last, 1
+        due("6 went", v.compact(0), 3);
+        due("6 nine records don't fit", v.segment(0, 0, 1), 8);
+        due("6 nine records don't fit", v.segment(0, 1, 1), 1);
     }
 
     private static void retain() {
@@ -351,6 +370,25 @@ public final class PromisesTest {
         due("9 fault", x.read(), -18);
         due("9 none came", x.of(0, 2), 7);
         due("9 empty by a fault, too", x.count(4), 0);
+        say(x, "1k=12");
+        due("9 again", x.read(), 1);
+        say(x, "1k=1");
+        due("9 a shorter one", x.read(), 1);
+        due("9 a shorter one", x.value(1, 10), bits(1f));
+        say(x, "1k-;");
+        due("9 too short", x.read(), -14);
+        String seven = "2a=1234;";
+        String most = seven.repeat(10) + "2b=-1234;2c=-1234/12";
+        due("9 100 signs", most.length(), 100);
+        say(x, most);
+        due("9 100 signs", x.read(), 12);
+        due("9 the last", x.value(2, 2), bits(-1234f / 12f));
+        say(x, most.substring(0, 89) + "2c=-1234/;");
+        x.feed('0');
+        due("9 a fault", x.read(), -108);
+        say(x, seven.repeat(8) + "2b=-1234/1;".repeat(2) + "2b=-1234/12;2c");
+        due("9 100 signs, too short", x.count(4), 100);
+        due("9 100 signs, too short", x.read(), -110);
 
         KeyedLogs y = filled(199, 1);
         say(y, "0a=1;0b=2;1c=3;0d-");
@@ -623,6 +661,16 @@ public final class PromisesTest {
         due("18 compacted", x.compact(0), 2);
         due("18 retained", x.retain(0), 2);
         due("18 what", x.would(0, 2), NONE);
+        due("18 an empty log", x.would(1, 0), 0);
+        due("18 an empty log", x.would(1, 1), 0);
+        KeyedLogs y = filled(4, 1);
+        y.put(0, 0, 1, 1, 1);
+        y.put(0, 0, 1, 1, 1);
+        due("18 not the active one's", y.would(0, 0), 1);
+        KeyedLogs z = filled(3, 1);
+        due("18 the active one alone", z.would(0, 0), 0);
+        z.set(1, 0);
+        due("18 the active one alone", z.would(0, 1), 0);
         due("18 what", x.would(0, -1), NONE);
         for (int wrong : WRONG) {
             due("18 log", x.would(wrong, 0), NONE);
@@ -650,6 +698,8 @@ public final class PromisesTest {
         due("19 205 sizes would be left", y.need(0, 41), -5);
         KeyedLogs z = filled(40, 5);
         due("19 200 sizes", z.need(0, 40), 200);
+        z.put(0, 0, 1, 1, 1);
+        due("19 201 sizes", z.need(0, 41), -5);
     }
 
     private static void join() {
@@ -667,6 +717,13 @@ public final class PromisesTest {
         due("20 the fourth", x.join(3), 1);
         due("20 comes", x.member(3, 1), 0b1000);
         due("20 of", x.of(3, 7), 3);
+        KeyedLogs y = new KeyedLogs();
+        y.join(1);
+        y.join(2);
+        due("20 the least number comes last", y.join(0), 1);
+        due("20 the first ahead keeps one more", y.member(1, 1), 0b0011);
+        due("20 its least one", y.member(2, 1), 0b0100);
+        due("20 comes", y.member(0, 1), 0b1000);
         for (int wrong : WRONG) {
             due("20 none", x.join(wrong), NONE);
         }
@@ -790,6 +847,9 @@ public final class PromisesTest {
         KeyedLogs y = filled(20, 5);
         due("26 never", y.odds(0, 0), 0);
         due("26 never", y.odds(0, 1), 1);
+        KeyedLogs w = filled(5, 2);
+        due("26 18 of 20", w.odds(0, 0), 9);
+        due("26 18 of 20", w.odds(0, 1), 10);
         KeyedLogs z = new KeyedLogs();
         for (int i = 0; i < 6; i++) {
             z.put(0, 0, i, 1, 3);
@@ -853,6 +913,22 @@ public final class PromisesTest {
         due("28 changes nothing", x.of(0, 8), 0);
         due("28 changes nothing", x.of(0, 3), 3);
         due("28 again", x.ends(0), 2);
+        KeyedLogs y = filled(4, 5);
+        y.tick(20);
+        for (int i = 0; i < 5; i++) {
+            y.tomb(0, 5 + i, 5);
+        }
+        y.plan(3, 4);
+        y.plan(0, 0);
+        due("28 grace", y.ends(0), 9);
+        y.plan(3, 1);
+        y.plan(0, 0);
+        due("28 grace", y.ends(0), 5);
+        y.set(1, 24);
+        y.plan(1, 0);
+        due("28 sizes", y.ends(0), 1);
+        y.set(1, 25);
+        due("28 sizes", y.ends(0), 5);
     }
 
     private static void book() {
@@ -968,6 +1044,9 @@ public final class PromisesTest {
         due("33 beyond", x.judge(0, 0, Integer.MAX_VALUE), 100);
         due("33 below", x.judge(0, 0, -1), 100);
         due("33 below", x.judge(0, 0, Integer.MIN_VALUE), 100);
+        x.put(2, 0, 1, 1, 1);
+        due("33 from offset 0 on", x.judge(2, 0, 0), -5);
+        due("33 from offset 0 on", x.judge(2, 0, 1), 0);
         for (int sort = 0; sort < 5; sort++) {
             x.tape(1, sort, 3);
             due("33 cast " + sort, x.judge(1, 1, 0), sort == 1 ? -5 : CAST);
@@ -1032,6 +1111,49 @@ public final class PromisesTest {
         due("34 a new one", x.image(), 10);
         x.put(0, 0, 5, 1, 1);
         due("35 to the new one", x.undo(), 10);
+    }
+
+    /** Offset 200 is END: no row has a place for it. */
+    private static void fullLog() {
+        KeyedLogs x = filled(200, 1);
+        x.image();
+        x.undo();
+        due("11 at the end", x.record(0, 200, 0), NO);
+        due("11 the last", x.record(0, 199, 5), 49);
+        due("10 greatest", x.of(0, 10), 199);
+        due("12 begun at the end", x.segment(0, 50, 1), 0);
+        due("14 how many", x.map(0, 0), 26);
+        due("15 at the end", x.replay(0, 201, -1), 26);
+        due("16 before the end", x.near(0, 200, 0), 199);
+        due("16 behind the end", x.near(0, 200, 1), -5);
+        due("17 beyond", x.oldest(0, 200), -5);
+        due("18 all but 26", x.would(0, 0), 174);
+        due("23 to the end", x.seek(0, 200), 0);
+        due("24 no lag", x.member(0, 2), 0);
+        x.join(0);
+        due("22 at the end", x.poll(0), -5);
+        due("31 too many", x.keep(0, 0, 60), PLACE);
+        x.tape(0, 1, 60);
+        for (int i = 0; i < 60; i++) {
+            x.item(0, i, i);
+        }
+        due("33 the row ends", x.judge(0, 0, 0), 160);
+        due("6 all but 26", x.compact(0), 174);
+        due("31 all", x.keep(0, 1, 26), 26);
+        for (int i = 0; i < 26; i++) {
+            x.item(0, i, 174 + i);
+        }
+        due("33 all", x.judge(0, 0, 0), -5);
+        // 174 .. 179 with all the empty ones ahead, 180 .. 187, 188 .. 195, 196 .. 199, the active one
+        due("6 joined", x.of(0, 3), 5);
+        due("6 joined", x.segment(0, 0, 1), 6);
+        due("6 joined", x.segment(0, 1, 0), 180);
+        x.set(1, 0);
+        due("7 all", x.retain(0), 26);
+        due("7 start", x.of(0, 1), 200);
+        x.book(0, 200);
+        due("30 as told", x.looked(), -5);
+        due("10 segments", x.of(0, 3), 1);
     }
 
     private static void count() {
