@@ -525,6 +525,16 @@ public final class PromisesTest {
         due("14 least", x.map(0, 2), bits(-5f / 7f));
         due("14 greatest", x.map(0, 3), bits(16777216f));
         due("14 mean", x.map(0, 4), Double.doubleToLongBits(wide / 5));
+        KeyedLogs fresh = filled(3, 1);
+        due("14 asked first", fresh.map(0, 2), bits(0f));
+        fresh.put(0, 3, 7, 1, 1);
+        due("14 asked at once", fresh.map(0, 3), bits(7f));
+        fresh.put(0, 4, -7, 1, 1);
+        due("14 asked at once", fresh.map(0, 2), bits(-7f));
+        fresh.put(0, 5, 9, 1, 1);
+        due("14 asked at once", fresh.map(0, 1), bits(12f));
+        fresh.tomb(0, 4, 1);
+        due("14 asked at once", fresh.map(0, 4), Double.doubleToLongBits(3.8));
         due("14 none: sum", x.map(1, 1), 0);
         due("14 none: how many", x.map(1, 0), 0);
         for (int what = 2; what < 5; what++) {
