@@ -1,13 +1,22 @@
 /** Counts answers that are not as due; a test ends with exit code 1 if there was one. */
 final class Check {
+    /** A broken class answers wrongly a thousand times: the first ones tell enough. */
+    private static final int MOST_SHOWN = 40;
+
     private int looked = 0;
     private int wrong = 0;
 
     void due(String call, long got, long want) {
         looked++;
         if (got != want) {
-            wrong++;
-            System.out.println(call + " answered " + got + ", due is " + want);
+            tell(call + " answered " + got + ", due is " + want);
+        }
+    }
+
+    void alike(String what, String got, String want) {
+        looked++;
+        if (!got.equals(want)) {
+            tell(what + " is " + got + ", due is " + want);
         }
     }
 
@@ -23,6 +32,13 @@ final class Check {
         System.out.println(name + ": " + looked + " answers, " + wrong + " wrong");
         if (wrong != 0 || looked == 0) {
             System.exit(1);
+        }
+    }
+
+    private void tell(String line) {
+        wrong++;
+        if (wrong <= MOST_SHOWN) {
+            System.out.println(line);
         }
     }
 }
