@@ -1064,7 +1064,9 @@ public final class KeyedLogs {
         }
 
         private void copyFrom(Group other) {
-            System.arraycopy(other.in, 0, in, 0, MEMBERS);
+            for (int m = 0; m < MEMBERS; m++) {
+                in[m] = other.in[m];
+            }
             System.arraycopy(other.owner, 0, owner, 0, LOGS);
             System.arraycopy(other.done, 0, done, 0, LOGS);
             reads = other.reads;

@@ -433,9 +433,9 @@ public final class CallsEdgesTest {
         S.due("the one ahead of it", full.segment(0, 49, 0), 196);
         S.says("NONE.");
         eachRefused("log", Scene.NO_LOG, (y, log) -> y.segment(log, 0, 0), NONE);
-        eachRefused("k", but(-1, 2), (y, k) -> y.segment(1, k, 0), NONE);
+        eachRefused("k", but(-1, 3), (y, k) -> y.segment(1, k, 0), NONE);
         eachRefused("what", but(-1, 4), (y, what) -> y.segment(0, 0, what), NONE);
-        S.due("the last", Scene.rich().segment(1, 1, 0), 4);
+        S.due("the last", Scene.rich().segment(1, 2, 0), 8);
     }
 
     // ---- what a log comes to
@@ -1083,7 +1083,7 @@ public final class CallsEdgesTest {
     private static void count() {
         S.promise(36);
         S.says("How many: 0 RECORDS of all LOGS, 1 MEMBERS IN, 2 of the PLAN, 3 of the BOOK, 4 bytes of THE TEXT.");
-        int[] rich = {8 + 5 + 2 + 3, 3, 4, 2, 2};
+        int[] rich = {8 + 9 + 2 + 3, 3, 4, 2, 2};
         for (int what = 0; what < 5; what++) {
             S.due("what " + what, Scene.rich().count(what), rich[what]);
             S.due("none, what " + what, new KeyedLogs().count(what), 0);

@@ -108,7 +108,8 @@ final class Scene {
         come(x, 0, "e-2 b9");
         x.compact(0);
         come(x, 0, "a3 f1");
-        come(x, 1, "a-3 b1 z2 b-1 c4");
+        // two CLOSED ones that are not one yet: whoever COMPACTS it unasked is seen
+        come(x, 1, "a-3 b1 z2 b-1 c4 d1 e1 f1 g2");
         x.put(2, 25, 1, 0, 9);
         x.put(2, 24, 0, 0, 9);
         say(x, "3k=-7/2;3k-;3l=9").read();
