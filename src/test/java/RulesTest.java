@@ -6,6 +6,8 @@ import java.nio.file.Files;
 import java.nio.file.Path;
 import java.util.Set;
 import java.util.TreeSet;
+import java.util.regex.Matcher;
+import java.util.regex.Pattern;
 
 /** What LANGUAGE.md asks of the file and of the room, as far as a program can look at it. */
 public final class RulesTest {
@@ -19,12 +21,14 @@ public final class RulesTest {
             + "book(int,int)int looked()int keep(int,int,int)int kept(int,int)long "
             + "judge(int,int,int)int image()int undo()int count(int)int tape(int,int,int)int "
             + "item(int,int,long)int peek(int,int)long shift(int,int,int,int,int)int";
+    private static final Pattern CALL = Pattern.compile("    public (int|long) (\\w+)\\((.*)\\);");
     private static final String[] RULED_OUT = {"->", "::", "import ", "Float.", "Double.", "synchronized",
         "assert ", "finally", "catch", "throw", "Exact(", "System.out", "Random", "nanoTime",
         "currentTime", "Object ", "instanceof", "protected ", "static {"};
 
     public static void main(String[] args) throws Exception {
         face();
+        documentFace();
         names();
         source();
         room();
@@ -51,10 +55,30 @@ public final class RulesTest {
                 "NONE public static final int", "BAD public static final int",
                 "STATE public static final int", "FULL public static final int",
                 "NO public static final long")));
+        CHECK.that("their numbers", KeyedLogs.NONE == -1 && KeyedLogs.BAD == -2 && KeyedLogs.STATE == -3
+                && KeyedLogs.FULL == -4 && KeyedLogs.NO == Long.MIN_VALUE);
         Constructor<?>[] made = KeyedLogs.class.getDeclaredConstructors();
         CHECK.that("one constructor", made.length == 1 && made[0].getModifiers() == Modifier.PUBLIC
                 && made[0].getParameterCount() == 0);
         CHECK.that("public and final", KeyedLogs.class.getModifiers() == (Modifier.PUBLIC | Modifier.FINAL));
+    }
+
+    /** The face above is the document's, sign by sign, where the document is there. */
+    private static void documentFace() throws Exception {
+        Path document = Path.of("../shared/DOC.md");
+        if (!Files.exists(document)) {
+            return;
+        }
+        StringBuilder face = new StringBuilder();
+        for (String line : Files.readAllLines(document)) {
+            Matcher call = CALL.matcher(line);
+            if (call.matches()) {
+                face.append(face.length() == 0 ? "" : " ").append(call.group(2)).append('(')
+                        .append(call.group(3).replaceAll("(int|long) \\w+(, )?", "$1,").replaceAll(",$", ""))
+                        .append(')').append(call.group(1));
+            }
+        }
+        CHECK.alike("the document's face", face.toString(), FACE);
     }
 
     private static String signature(Method m) {
